@@ -4,7 +4,7 @@ import java.util.Map;
 import java.util.Objects;
 import java.util.TreeMap;
 
-/** The document told a second time, with maps, for ModelTest to compare answers with. */
+/** The document told a second time, with maps, for tests to compare answers with. */
 final class Model {
     static final String[] CALLS = {
         "mount", "unmount", "mkdir", "rmdir", "write", "grow", "remove", "rename", "read",
